@@ -1,0 +1,148 @@
+import java.util.Arrays;
+
+/** One server and the checks on it; prints each answer that is not the one that is due. */
+final class Bench {
+    private static int wrong = 0;
+    EpochServer server = new EpochServer();
+
+    /** A server with a version and fid 0 at the live root. */
+    static Bench attached() {
+        Bench bench = new Bench();
+        bench.ok(Wire.version(8192, "9P2000"));
+        bench.ok(Wire.attach(0, Wire.NOFID, "u", ""));
+        return bench;
+    }
+
+    static void end() {
+        System.out.println(wrong == 0 ? "all as due" : wrong + " not as due");
+        if (wrong != 0) {
+            System.exit(1);
+        }
+    }
+
+    static void due(String what, long want, long got) {
+        if (want != got) {
+            complain(what + ": answered " + got + ", due is " + want);
+        }
+    }
+
+    private static void complain(String text) {
+        wrong++;
+        System.out.println(text);
+        StackTraceElement[] trace = new Throwable().getStackTrace();
+        for (StackTraceElement place : trace) {
+            if (place.getClassName().endsWith("Test")) {
+                System.out.println("    at " + place);
+            }
+        }
+    }
+
+    void feed(byte[] bytes) {
+        byte[] padded = Arrays.copyOf(bytes, (bytes.length + 19) / 20 * 20);
+        for (int at = 0; at < padded.length; at += 20) {
+            server.feed(four(padded, at), four(padded, at + 4), four(padded, at + 8), four(padded, at + 12),
+                    four(padded, at + 16));
+        }
+    }
+
+    private static int four(byte[] bytes, int at) {
+        return (bytes[at] & 255) << 24 | (bytes[at + 1] & 255) << 16 | (bytes[at + 2] & 255) << 8 | bytes[at + 3] & 255;
+    }
+
+    int send(byte[] bytes) {
+        feed(bytes);
+        return server.message(bytes.length);
+    }
+
+    byte[] answer() {
+        byte[] bytes = new byte[server.count(10)];
+        for (int i = 0; i < bytes.length; i++) {
+            bytes[i] = (byte) server.answer(i);
+        }
+        return bytes;
+    }
+
+    /** Sent, and answered by the type that is due; the body behind the head. */
+    byte[] ok(byte[] message) {
+        int length = send(message);
+        byte[] answer = answer();
+        due("length that message answered", answer.length, length);
+        due("size field", answer.length, server.word(0));
+        due("type" + (answer.length == 10 ? " (ERROR " + (answer[9] - 48) + ")" : ""),
+                (message[4] & 255) + 1, server.answer(4));
+        due("tag", message[5] & 255 | (message[6] & 255) << 8, server.answer(5) | server.answer(6) << 8);
+        return answer.length < 7 ? new byte[0] : Arrays.copyOfRange(answer, 7, answer.length);
+    }
+
+    void ok(byte[] message, byte[] body) {
+        byte[] got = ok(message);
+        if (!Arrays.equals(body, got)) {
+            complain("body: answered " + Arrays.toString(got) + ", due is " + Arrays.toString(body));
+        }
+    }
+
+    void error(int number, byte[] message) {
+        int errors = server.count(12);
+        int time = server.count(0);
+        due("length of an ERROR", 10, send(message));
+        byte[] due = Wire.of(107, message[5] & 255 | (message[6] & 255) << 8).n2(1).n1(48 + number).sized();
+        if (!Arrays.equals(due, answer())) {
+            complain("ERROR: answered " + Arrays.toString(answer()) + ", due is " + Arrays.toString(due));
+        }
+        due("count(12)", errors + 1, server.count(12));
+        due("count(0)", time + 1, server.count(0));
+    }
+
+    void ill(byte[] bytes) {
+        byte[] before = answer();
+        int ill = server.count(11);
+        int time = server.count(0);
+        due("message of ILL bytes", -1, send(bytes));
+        due("count(11)", ill + 1, server.count(11));
+        due("count(0)", time, server.count(0));
+        due("count(9)", 0, server.count(9));
+        if (!Arrays.equals(before, answer())) {
+            complain("ILL bytes changed the answer");
+        }
+    }
+
+    void file(int tree, int path, int parent, int version, int mode, int mtime, int size, int nameSize) {
+        int[] due = {parent, version, mode, mtime, size, nameSize};
+        for (int what = 0; what < due.length; what++) {
+            due("file(" + tree + ", " + path + ", " + what + ")", due[what], server.file(tree, path, what));
+        }
+    }
+
+    void noFile(int tree, int path) {
+        for (int what = -1; what < 7; what++) {
+            due("file(" + tree + ", " + path + ", " + what + ")", -9, server.file(tree, path, what));
+        }
+    }
+
+    void fid(int number, int tree, int path, int open, int mode, int lost) {
+        int[] due = {tree, path, open, mode, lost};
+        for (int what = 0; what < due.length; what++) {
+            due("fid(" + number + ", " + what + ")", due[what], server.fid(number, what));
+        }
+    }
+
+    void noFid(int number) {
+        for (int what = -1; what < 6; what++) {
+            due("fid(" + number + ", " + what + ")", -9, server.fid(number, what));
+        }
+    }
+
+    void count(int what, int due) {
+        due("count(" + what + ")", due, server.count(what));
+    }
+
+    /** A new file in the root, by a fid that is gone behind it. */
+    void make(String name, int perm, String data) {
+        ok(Wire.walk(0, 999));
+        ok(Wire.create(999, name, perm, perm < 0 ? 0 : 2));
+        if (!data.isEmpty()) {
+            ok(Wire.write(999, 0, data));
+        }
+        ok(Wire.clunk(999));
+    }
+}
