@@ -1,4 +1,6 @@
+import java.util.ArrayList;
 import java.util.Arrays;
+import java.util.List;
 import java.util.Random;
 
 /** Runs of calls by fixed seeds, each answer held against the Oracle's. */
@@ -13,11 +15,14 @@ final class RandomRunsTest {
     private final Bench bench = new Bench();
     private final Oracle oracle = new Oracle();
     private final String run;
+    /** Lets few things go, so that rows fill up. */
+    private final boolean hoards;
     private int step = 0;
 
     private RandomRunsTest(long seed) {
         random = new Random(seed);
         run = "seed " + seed;
+        hoards = seed % 3 == 1;
     }
 
     public static void main(String[] args) {
@@ -33,24 +38,26 @@ final class RandomRunsTest {
         send(Wire.attach(0, -1, "u", ""));
         for (step = 0; step < steps; step++) {
             int what = random.nextInt(100);
-            if (what < 88) {
+            if (what < 90) {
                 send(spoilt(randomMessage()));
-            } else if (what < 90) {
+            } else if (what < 91) {
                 same("snap", oracle.snap(), bench.server.snap());
-            } else if (what < 92) {
+            } else if (what < 93) {
                 int k = number(-1, 7);
                 same("archive", oracle.archive(k), bench.server.archive(k));
-            } else if (what < 94) {
+            } else if (what < 95) {
                 int k = number(-1, 7);
                 for (int i = -1; i < 21; i++) {
                     same("score", oracle.score(k, i), bench.server.score(k, i));
                 }
-            } else if (what < 95) {
+            } else if (what < 96 && (!hoards || random.nextInt(20) == 0)) {
                 crash();
             } else {
                 tape();
             }
-            compare();
+            if (step % 4 == 0) {
+                compare();
+            }
         }
     }
 
@@ -89,12 +96,18 @@ final class RandomRunsTest {
 
     private byte[] randomMessage() {
         int f = fid();
-        switch (random.nextInt(24)) {
+        if (oracle.fids.isEmpty() && random.nextInt(3) > 0) {
+            return oracle.msize == 0 ? Wire.version(1000, "9P2000") : Wire.attach(0, -1, "u", "");
+        }
+        if (hoards && random.nextInt(4) == 0) {
+            return random.nextInt(2) == 0 ? Wire.walk(rootFid(), f, freshest()) : Wire.walk(rootFid(), newFid());
+        }
+        switch (hoards ? pick(4, 5, 8, 10, 13, 14, 16, 17, 18, 19, 22, 23, 24, 24, 24, 25) : random.nextInt(26)) {
             case 0: return random.nextInt(12) > 0 ? Wire.flush(7)
                     : Wire.version(pick(63, 64, -1, 1000, 300), pick("9P2000", "9P2000.u", "9P200", "9p2000"));
             case 1: return Wire.auth(f, "u", "");
             case 2:
-            case 3: return Wire.attach(f, random.nextInt(9) == 0 ? 3 : -1, "u", pick("", "s0", "s1", "s5", "s", "sa", "s00", "t0"));
+            case 3: return Wire.attach(newFid(), random.nextInt(9) == 0 ? 3 : -1, "u", pick("", "s0", "s1", "s5", "s", "sa", "s00", "t0"));
             case 4:
             case 5:
             case 6:
@@ -112,7 +125,11 @@ final class RandomRunsTest {
             case 18: return Wire.clunk(f);
             case 19: return Wire.remove(f);
             case 20: return Wire.stat(f);
-            default: return wstat(f);
+            case 21:
+            case 22: return wstat(f);
+            case 23: return Wire.open(f, pick(0, 0, 1, 2, 16, 18, 66));
+            case 24: return Wire.create(f, freshName(), pick(0x1ff, 0x1b6, 0x800001ff), 0);
+            default: return Wire.write(f, random.nextInt(300), data());
         }
     }
 
@@ -122,7 +139,11 @@ final class RandomRunsTest {
         for (int i = 0; i < names.length; i++) {
             names[i] = up || random.nextInt(4) == 0 ? ".." : name();
         }
-        return Wire.walk(f, random.nextInt(4) == 0 ? f : fid(), names);
+        if (random.nextInt(2) == 0 && names.length > 0) {
+            f = rootFid();
+            names[0] = freshest();
+        }
+        return Wire.walk(f, random.nextInt(4) == 0 ? f : newFid(), names);
     }
 
     private byte[] wstat(int f) {
@@ -157,11 +178,41 @@ final class RandomRunsTest {
         return data;
     }
 
+    /** Most often one that is there. */
     private int fid() {
-        return random.nextInt(30) == 0 ? number(-3, 60) : random.nextInt(random.nextInt(4) == 0 ? 30 : 6);
+        if (oracle.fids.isEmpty() || random.nextInt(25) == 0) {
+            return newFid();
+        }
+        List<Integer> there = new ArrayList<>(oracle.fids.keySet());
+        return there.get(random.nextInt(there.size()));
+    }
+
+    private int newFid() {
+        return random.nextInt(8) == 0 ? random.nextInt() : number(-1, 29);
+    }
+
+    private int rootFid() {
+        for (int number : oracle.fids.keySet()) {
+            Oracle.Handle h = oracle.fids.get(number);
+            if (h.path == 0 && !h.open) {
+                return number;
+            }
+        }
+        return 0;
+    }
+
+    private String freshest() {
+        return "n" + Math.max(0, oracle.paths - 1 - random.nextInt(5));
+    }
+
+    private String freshName() {
+        return "n" + oracle.paths;
     }
 
     private String name() {
+        if (random.nextInt(3) == 0) {
+            return "n" + random.nextInt(oracle.paths);
+        }
         return NAMES[random.nextInt(random.nextInt(6) == 0 ? NAMES.length : 5)];
     }
 
