@@ -1005,8 +1005,8 @@ public final class EpochServer {
                 case CREATE: readText(); perm = number(4); mode = number(1); return true;
                 case READ: offset = longNumber(8); many = number(4); return true;
                 case WRITE: offset = longNumber(8); readData(); return true;
-                case CLUNK: return true;
-                case REMOVE: return true;
+                case CLUNK:
+                case REMOVE:
                 case STAT: return true;
                 case WSTAT: readStat(); return true;
                 default: return false;

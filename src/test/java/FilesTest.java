@@ -170,9 +170,18 @@ final class FilesTest {
         b.ok(Wire.write(3, 400, ""), new byte[4]);
         b.file(-1, 1, 0, 2, 0x1ff, time, 4, 1);
         b.count(5, loose);
+        // 16 with lowest bits 0 asks for bit 7, but lets nothing be written.
+        b.ok(Wire.walk(0, 4, "f"));
+        b.ok(Wire.open(4, 80));
+        b.error(3, Wire.write(4, 0, "x"));
+        b.ok(Wire.read(4, 0, 9), new byte[4]);
+        b.file(-1, 1, 0, 3, 0x1ff, b.server.count(0) - 2, 0, 1);
+        b.count(5, ++loose);
         // The same bytes again are a change, too.
         b.ok(Wire.write(3, 0, "x"));
-        b.file(-1, 1, 0, 3, 0x1ff, b.server.count(0), 4, 1);
+        b.count(5, ++loose);
+        b.ok(Wire.write(3, 0, "x"));
+        b.file(-1, 1, 0, 5, 0x1ff, b.server.count(0), 1, 1);
         b.count(5, loose + 1);
     }
 
