@@ -646,7 +646,7 @@ public final class EpochServer {
         }
     }
 
-    /** The files of a tree, by their paths. A file's path is always above its directory's. */
+    /** The files of a tree, by their paths. */
     private static final class Tree {
         private final Node[] nodes = new Node[MOST_FILES];
 
@@ -684,6 +684,42 @@ public final class EpochServer {
         Node in(int directory, int path) {
             Node node = at(path);
             return node == null || path == ROOT || node.parent != directory ? null : node;
+        }
+
+        private Node nextIn(int directory, int behind) {
+            for (int path = behind + 1; path < MOST_FILES; path++) {
+                Node node = in(directory, path);
+                if (node != null) {
+                    return node;
+                }
+            }
+            return null;
+        }
+
+        /** A directory's files by their paths, each with all that is in it, then the directory: how many. */
+        int listInnermostFirst(int[] row) {
+            int many = 0;
+            int behind = ROOT;
+            Node directory = at(ROOT);
+            // A file takes one step, a directory two: into it, and out of it.
+            for (int step = 0; step < 2 * MOST_FILES && directory != null; step++) {
+                Node next = nextIn(directory.path, behind);
+                if (next != null && next.isDirectory()) {
+                    directory = next;
+                    behind = ROOT;
+                    continue;
+                }
+                int done = next == null ? directory.path : next.path;
+                if (many < row.length) {
+                    row[many] = done;
+                    many++;
+                }
+                if (next == null) {
+                    directory = done == ROOT ? null : at(directory.parent);
+                }
+                behind = done;
+            }
+            return many;
         }
 
         int sizeOf(int directory) {
@@ -1273,6 +1309,7 @@ public final class EpochServer {
         private final Sha sha = new Sha();
         private final Bytes block = new Bytes(MOST_FILES * (STAT_SIZE_WITHOUT_NAME + MOST_NAME + SCORE_SIZE));
         private final int[] lastScores = new int[MOST_FILES * SCORE_WORDS];
+        private final int[] order = new int[MOST_FILES];
         private boolean keeps = false;
         private boolean full = false;
 
@@ -1303,9 +1340,10 @@ public final class EpochServer {
             }
         }
 
-        /** From the highest path down: so each directory's files are scored ahead of it. */
         private void goOver(Tree tree) {
-            for (int path = MOST_FILES - 1; path >= ROOT; path--) {
+            int many = tree.listInnermostFirst(order);
+            for (int i = 0; i < many && i < order.length; i++) {
+                int path = order[i];
                 Node node = tree.at(path);
                 if (node == null) {
                     continue;
@@ -1317,8 +1355,8 @@ public final class EpochServer {
                     fillFromData(node.data);
                 }
                 offer(block.cells, 0, block.size());
-                for (int i = 0; i < SCORE_WORDS; i++) {
-                    lastScores[path * SCORE_WORDS + i] = sha.words[i];
+                for (int word = 0; word < SCORE_WORDS; word++) {
+                    lastScores[path * SCORE_WORDS + word] = sha.words[word];
                 }
             }
         }

@@ -1,4 +1,9 @@
+import java.lang.reflect.Field;
+import java.nio.ByteBuffer;
+import java.util.ArrayList;
 import java.util.Arrays;
+import java.util.HexFormat;
+import java.util.List;
 
 /** One server and the checks on it; prints each answer that is not the one that is due. */
 final class Bench {
@@ -134,6 +139,39 @@ final class Bench {
 
     void count(int what, int due) {
         due("count(" + what + ")", due, server.count(what));
+    }
+
+    /**
+     * The scores in THE STORE, in the order in which they came. Calls tell that order only by blocks of
+     * one score and several sizes, and nobody has such blocks, so it is looked up inside the server.
+     */
+    void storeIs(List<String> due) {
+        List<String> got = storeScores();
+        if (!due.equals(got)) {
+            complain("order of the blocks: is " + got + ", due is " + due);
+        }
+    }
+
+    private List<String> storeScores() {
+        Object store = inside(inside(server, "archiver"), "store");
+        int[] words = (int[]) inside(store, "scores");
+        List<String> scores = new ArrayList<>();
+        for (int block = 0; block < server.count(6); block++) {
+            ByteBuffer score = ByteBuffer.allocate(20);
+            score.asIntBuffer().put(words, block * 5, 5);
+            scores.add(HexFormat.of().formatHex(score.array()));
+        }
+        return scores;
+    }
+
+    private static Object inside(Object holder, String name) {
+        try {
+            Field field = holder.getClass().getDeclaredField(name);
+            field.setAccessible(true);
+            return field.get(holder);
+        } catch (ReflectiveOperationException e) {
+            throw new IllegalStateException("the server's inside is another one: mend storeScores", e);
+        }
     }
 
     /** A new file in the root, by a fid that is gone behind it. */

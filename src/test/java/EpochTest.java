@@ -7,7 +7,6 @@ final class EpochTest {
         emptyTree();
         archive();
         sharedBlocks();
-        nested();
         fullStore();
         crash();
         crashDepth();
@@ -106,30 +105,6 @@ final class EpochTest {
         // No data, and no files: the block of 0 bytes; "same" and its row once; the root.
         Bench.due("archive", 4, b.server.archive(0));
         b.count(7, 4 + 20 + 4 * 73);
-    }
-
-    private static void nested() {
-        Bench b = Bench.attached();
-        for (int depth = 1; depth < 60; depth++) {
-            b.ok(Wire.create(0, "d", 0x800001ff, 0));
-            b.ok(Wire.attach(1, Wire.NOFID, "", ""));
-            for (int left = depth; left > 0; left -= 16) {
-                String[] names = new String[Math.min(16, left)];
-                java.util.Arrays.fill(names, "d");
-                b.ok(Wire.walk(1, 1, names));
-            }
-            b.ok(Wire.clunk(0));
-            b.ok(Wire.walk(1, 0));
-            b.ok(Wire.clunk(1));
-        }
-        b.server.snap();
-        byte[] score = Oracle.sha(new byte[0]);
-        for (int path = 59; path >= 1; path--) {
-            byte[] stat = Wire.statOfFile(path, b.server.file(0, path, 1), 0x800001ff, b.server.file(0, path, 3), 0, "d");
-            score = Oracle.sha(new Wire().raw(stat).raw(score).bytes());
-        }
-        scoreIs(b, 0, score);
-        Bench.due("archive", 60, b.server.archive(0));
     }
 
     /** It takes more calls than an object is promised for, but the limit is to hold all the same. */

@@ -5,7 +5,8 @@ import java.security.MessageDigest;
 import java.util.ArrayList;
 import java.util.Arrays;
 import java.util.HashMap;
-import java.util.HashSet;
+import java.util.HexFormat;
+import java.util.LinkedHashMap;
 import java.util.List;
 import java.util.Map;
 import java.util.Set;
@@ -69,7 +70,8 @@ final class Oracle {
     final List<TreeMap<Integer, F>> snaps = new ArrayList<>();
     final List<TreeMap<Integer, F>> undo = new ArrayList<>();
     final Map<Integer, Handle> fids = new HashMap<>();
-    final Map<String, Integer> store = new HashMap<>();
+    /** The blocks' sizes by their scores, in the order in which they came. */
+    final Map<String, Integer> store = new LinkedHashMap<>();
     int paths = 1;
     int time;
     int ill;
@@ -549,7 +551,7 @@ final class Oracle {
 
     private byte[] block(byte[] bytes, Map<String, Integer> blocks) {
         byte[] score = sha(bytes);
-        blocks.put(Arrays.toString(score), bytes.length);
+        blocks.putIfAbsent(HexFormat.of().formatHex(score), bytes.length);
         return score;
     }
 
@@ -573,15 +575,14 @@ final class Oracle {
         if (k < 0 || k >= snaps.size()) {
             return -1;
         }
-        Map<String, Integer> blocks = new HashMap<>();
+        Map<String, Integer> blocks = new LinkedHashMap<>();
         putAway(snaps.get(k), 0, blocks);
-        Set<String> fresh = new HashSet<>(blocks.keySet());
-        fresh.removeAll(store.keySet());
-        if (store.size() + fresh.size() > 600) {
+        blocks.keySet().removeAll(store.keySet());
+        if (store.size() + blocks.size() > 600) {
             return -2;
         }
         store.putAll(blocks);
-        return fresh.size();
+        return blocks.size();
     }
 
     int score(int k, int i) {

@@ -12,16 +12,17 @@ final class RandomRunsTest {
     private static final long[] OFFSETS = {0, 0, 0, 1, 53, 54, 63, 64, 106, 108, 300, 511, 512, 513, -1, 1L << 32, Long.MIN_VALUE};
 
     private final Random random;
-    private final Bench bench = new Bench();
-    private final Oracle oracle = new Oracle();
-    private final String run;
+    private final Twin twin;
+    private final Bench bench;
+    private final Oracle oracle;
     /** Lets few things go, so that rows fill up. */
     private final boolean hoards;
-    private int step = 0;
 
     private RandomRunsTest(long seed) {
         random = new Random(seed);
-        run = "seed " + seed;
+        twin = new Twin("seed " + seed);
+        bench = twin.bench;
+        oracle = twin.oracle;
         hoards = seed % 3 == 1;
     }
 
@@ -36,20 +37,17 @@ final class RandomRunsTest {
     private void go(int steps) {
         send(Wire.version(pick(64, 128, 500, 1000, 8000), "9P2000"));
         send(Wire.attach(0, -1, "u", ""));
-        for (step = 0; step < steps; step++) {
+        for (int step = 0; step < steps; step++) {
+            twin.step = step;
             int what = random.nextInt(100);
             if (what < 90) {
                 send(spoilt(randomMessage()));
             } else if (what < 91) {
-                same("snap", oracle.snap(), bench.server.snap());
+                twin.snap();
             } else if (what < 93) {
-                int k = number(-1, 7);
-                same("archive", oracle.archive(k), bench.server.archive(k));
+                twin.archive(number(-1, 7));
             } else if (what < 95) {
-                int k = number(-1, 7);
-                for (int i = -1; i < 21; i++) {
-                    same("score", oracle.score(k, i), bench.server.score(k, i));
-                }
+                twin.scores(number(-1, 7));
             } else if (what < 96 && (!hoards || random.nextInt(20) == 0)) {
                 crash();
             } else {
@@ -62,8 +60,7 @@ final class RandomRunsTest {
     }
 
     private void crash() {
-        int n = number(-1, 1 + random.nextInt(21));
-        same("crash", oracle.crash(n), bench.server.crash(n));
+        twin.crash(number(-1, 1 + random.nextInt(21)));
         if (random.nextInt(4) > 0) {
             send(Wire.version(pick(64, 200, 1000), "9P2000"));
             send(Wire.attach(0, -1, "u", ""));
@@ -71,13 +68,11 @@ final class RandomRunsTest {
     }
 
     private void tape() {
-        int[] five = random.ints(5).toArray();
-        same("feed", oracle.feed(five), bench.server.feed(five[0], five[1], five[2], five[3], five[4]));
+        twin.feed(random.ints(5).toArray());
         int i = number(-2, 1402);
         int v = random.nextInt();
         same("bend", oracle.bend(i, v), bench.server.bend(i, v));
-        int n = number(-1, 42);
-        same("message", oracle.message(n), bench.server.message(n));
+        twin.message("of the tape", number(-1, 42));
     }
 
     private byte[] spoilt(byte[] message) {
@@ -229,17 +224,11 @@ final class RandomRunsTest {
     }
 
     private void send(byte[] message) {
-        byte[] padded = Arrays.copyOf(message, (message.length + 19) / 20 * 20);
-        for (int at = 0; at < padded.length; at += 20) {
-            int[] five = new int[5];
-            java.nio.ByteBuffer.wrap(padded, at, 20).asIntBuffer().get(five);
-            same("feed", oracle.feed(five), bench.server.feed(five[0], five[1], five[2], five[3], five[4]));
-        }
-        same("message " + Arrays.toString(message), oracle.message(message.length), bench.server.message(message.length));
+        twin.send(message);
     }
 
     private void same(String call, int want, int got) {
-        Bench.due(run + ", step " + step + ", " + call, want, got);
+        twin.same(call, want, got);
     }
 
     private void compare() {
