@@ -1,5 +1,6 @@
 import java.lang.reflect.Field;
 import java.nio.ByteBuffer;
+import java.nio.ByteOrder;
 import java.util.ArrayList;
 import java.util.Arrays;
 import java.util.HexFormat;
@@ -12,8 +13,12 @@ final class Bench {
 
     /** A server with a version and fid 0 at the live root. */
     static Bench attached() {
+        return attached(8192);
+    }
+
+    static Bench attached(int msize) {
         Bench bench = new Bench();
-        bench.ok(Wire.version(8192, "9P2000"));
+        bench.ok(Wire.version(msize, "9P2000"));
         bench.ok(Wire.attach(0, Wire.NOFID, "u", ""));
         return bench;
     }
@@ -86,9 +91,18 @@ final class Bench {
         }
     }
 
+    /** Whether all that the calls tell is as it was, but for those that begin with one of these. */
+    void unchanged(String call, State before, String... but) {
+        List<String> unlike = before.unlike(new State(server), List.of(but));
+        if (!unlike.isEmpty()) {
+            complain(call + " changed " + unlike);
+        }
+    }
+
     void error(int number, byte[] message) {
         int errors = server.count(12);
         int time = server.count(0);
+        State before = new State(server);
         due("length of an ERROR", 10, send(message));
         byte[] due = Wire.of(107, message[5] & 255 | (message[6] & 255) << 8).n2(1).n1(48 + number).sized();
         if (!Arrays.equals(due, answer())) {
@@ -96,19 +110,27 @@ final class Bench {
         }
         due("count(12)", errors + 1, server.count(12));
         due("count(0)", time + 1, server.count(0));
+        unchanged("an ERROR", before, mayChangeWithError(message));
+    }
+
+    /** By the document an ERROR changes TIME alone; but 122 takes its FID, and 100 all FIDS and the version. */
+    private static String[] mayChangeWithError(byte[] message) {
+        List<String> may = new ArrayList<>(List.of("count(0)", "count(10)", "count(12)", "answer("));
+        if (message[4] == 122) {
+            int fid = ByteBuffer.wrap(message).order(ByteOrder.LITTLE_ENDIAN).getInt(7);
+            may.addAll(List.of("count(3)", "fid(" + fid + ","));
+        } else if (message[4] == 100) {
+            may.addAll(List.of("count(3)", "count(8)", "fid("));
+        }
+        return may.toArray(new String[0]);
     }
 
     void ill(byte[] bytes) {
-        byte[] before = answer();
         int ill = server.count(11);
-        int time = server.count(0);
+        State before = new State(server);
         due("message of ILL bytes", -1, send(bytes));
         due("count(11)", ill + 1, server.count(11));
-        due("count(0)", time, server.count(0));
-        due("count(9)", 0, server.count(9));
-        if (!Arrays.equals(before, answer())) {
-            complain("ILL bytes changed the answer");
-        }
+        unchanged("ILL bytes", before, "count(11)");
     }
 
     void file(int tree, int path, int parent, int version, int mode, int mtime, int size, int nameSize) {
