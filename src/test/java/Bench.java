@@ -23,6 +23,19 @@ final class Bench {
         return bench;
     }
 
+    /** Fid 1 at file f (PATH 1, four bytes, MTIME 5), fid 2 at directory d (PATH 2, MTIME 8); nothing is LOOSE. */
+    static Bench twoFiles() {
+        Bench bench = attached();
+        bench.make("f", 0x1ff, "data");
+        bench.make("d", 0x800001ff, "");
+        bench.ok(Wire.walk(0, 1, "f"));
+        bench.ok(Wire.walk(0, 2, "d"));
+        bench.ok(Wire.sync(0));
+        bench.file(-1, 1, 0, 1, 0x1ff, 5, 4, 1);
+        bench.file(-1, 2, 0, 0, 0x800001ff, 8, 0, 1);
+        return bench;
+    }
+
     static void end() {
         System.out.println(wrong == 0 ? "all as due" : wrong + " not as due");
         if (wrong != 0) {

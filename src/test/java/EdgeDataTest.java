@@ -21,6 +21,7 @@ final class EdgeDataTest {
         readOfNoData();
         statsThatHaveRoom();
         roomForOneStat();
+        noneIsPassedOver();
         oneStatByMsize();
         directoryOffsets();
         offsetNoughtStartsAgain();
@@ -193,6 +194,21 @@ final class EdgeDataTest {
         b.ok(Wire.read(0, 179, 1000), new byte[4]);
         b.ok(Wire.read(0, 179, 0), new byte[4]);
         b.ok(Wire.read(0, 0, 1000), counted(FIRST, SECOND, THIRD));
+    }
+
+    /** "by PATHS": one without room is not passed over, though there is room for the one behind it. */
+    private static void noneIsPassedOver() {
+        Bench b = Bench.attached();
+        b.make("twenty-bytes-long-na", 0, "");
+        b.make("b", 0, "");
+        byte[] large = Wire.statOfFile(1, 0, 0, 4, 0, "twenty-bytes-long-na");
+        byte[] small = Wire.statOfFile(2, 0, 0, 7, 0, "b");
+        b.ok(Wire.open(0, 0));
+        b.ok(Wire.read(0, 0, 53), new byte[4]);
+        b.ok(Wire.read(0, 0, 71), new byte[4]);
+        b.ok(Wire.read(0, 0, 72), counted(large));
+        b.ok(Wire.read(0, 72, 53), counted(small));
+        b.ok(Wire.read(0, 0, 72 + 53), counted(large, small));
     }
 
     /** MSIZE cuts the room for STATS, too. */

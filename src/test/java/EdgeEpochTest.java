@@ -9,6 +9,7 @@ final class EdgeEpochTest {
         sixSnapshots();
         snapshotsThatAreNone();
         bytesOfAScore();
+        scoreOfEachSnapshot();
         blocksOfData();
         blocksOfEqualData();
         scoresOfEachLength();
@@ -20,6 +21,7 @@ final class EdgeEpochTest {
         crashOfNothing();
         crashOfEachKind();
         looseSinceTheLatestSync();
+        onlyASyncMakesFast();
         whatACrashLeaves();
         changesThatAreNone();
         filesThatAreNone();
@@ -92,6 +94,26 @@ final class EdgeEpochTest {
             }
             b.count(6, away);
             b.server.archive(0);
+        }
+    }
+
+    /** "of a SNAPSHOT": each keeps its own, whatever comes behind it. */
+    private static void scoreOfEachSnapshot() {
+        Bench b = Bench.attached();
+        byte[][] roots = new byte[6][];
+        Wire root = new Wire();
+        for (int k = 0; k < 6; k++) {
+            b.server.snap();
+            roots[k] = root.bytes();
+            b.make("n" + k, 0x1ff, "");
+            root.raw(Wire.statOfFile(k + 1, 0, 0x1ff, b.server.count(0) - 1, 0, "n" + k)).raw(Oracle.sha(new byte[0]));
+        }
+        for (int k = 5; k >= 0; k--) {
+            scoreIs(b, k, roots[k]);
+        }
+        b.server.crash(6);
+        for (int k = 0; k < 6; k++) {
+            scoreIs(b, k, roots[k]);
         }
     }
 
@@ -408,6 +430,21 @@ final class EdgeEpochTest {
                 Bench.due("VERSION", before + behind - loose, b.server.file(-1, 1, 1));
             }
         }
+    }
+
+    /** Neither a version, a SNAPSHOT, PUTTING it AWAY, an ERROR nor ILL bytes make anything fast. */
+    private static void onlyASyncMakesFast() {
+        Bench b = written(20);
+        b.server.snap();
+        b.server.archive(0);
+        b.error(9, Wire.wstat(1, "", -1, -1, 513));
+        b.ill(Arrays.copyOf(Wire.sync(0), 60));
+        b.count(5, 20);
+        b.error(3, Wire.version(63, "9P2000"));
+        b.ok(Wire.version(1000, "9P2000"));
+        b.count(5, 20);
+        Bench.due("crash(20)", 1, b.server.crash(20));
+        b.file(-1, 1, 0, 0, 0x1ff, 4, 0, 1);
     }
 
     /** "(PATHS are not given again, TIME goes on, SNAPSHOTS and THE STORE stay.)" */

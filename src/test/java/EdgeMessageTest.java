@@ -9,6 +9,7 @@ final class EdgeMessageTest {
         emptyTextsAreTexts();
         everyByteCounts();
         lengthIsThatOfTheBytes();
+        bytesBehindItAreNoPart();
         otherTypes();
         tags();
         textsThatAreTooLongOrShort();
@@ -80,6 +81,33 @@ final class EdgeMessageTest {
                 b.ill(bytes);
             }
         }
+    }
+
+    /** "The first n bytes of the TAPE": what stands behind them neither fills a MESSAGE up nor spoils it. */
+    private static void bytesBehindItAreNoPart() {
+        for (byte[] message : right()) {
+            Bench b = new Bench();
+            byte[] less = message.clone();
+            less[0]--;
+            b.feed(less);
+            Bench.due("message", -1, b.server.message(message.length - 1));
+            b.count(11, 1);
+            byte[] more = Arrays.copyOf(message, message.length + 20);
+            Arrays.fill(more, message.length, more.length, (byte) 255);
+            b.feed(more);
+            int length = b.server.message(message.length);
+            Bench.due("message", b.server.count(10), length);
+            Bench.due("type", message[4] == 100 ? 101 : 107, b.server.answer(4));
+            b.count(0, 1);
+            b.count(11, 1);
+            b.count(9, 0);
+        }
+        // The sixth byte of 9P2000 stands behind a version of five.
+        Bench b = new Bench();
+        b.feed(Wire.of(100, 0).n4(100).s("9P200").n1('0').sized());
+        b.server.bend(0, 18);
+        Bench.due("message(18)", 20, b.server.message(18));
+        b.count(8, 0);
     }
 
     /** No type is a MESSAGE's but 100, 102, 104, 108 to 126, even ones. */

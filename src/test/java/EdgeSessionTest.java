@@ -21,6 +21,7 @@ final class EdgeSessionTest {
         sixteenNames();
         walkErrorsInOrder();
         walkWithoutNames();
+        walkToItself();
         upFromTheRoot();
         walkThatStops();
         namesAreWhole();
@@ -360,6 +361,22 @@ final class EdgeSessionTest {
         b.error(3, Wire.walk(1, 1));
     }
 
+    /** newfid that is fid goes to the last one itself, if it comes so far. */
+    private static void walkToItself() {
+        Bench b = Bench.attached();
+        b.make("d", 0x800001ff, "");
+        b.make("f", 0x1ff, "");
+        b.ok(Wire.walk(0, 1));
+        b.ok(Wire.walk(1, 1, "d"));
+        b.fid(1, -1, 1, 0, 0, 0);
+        b.ok(Wire.walk(1, 1, "..", "d", "x"));
+        b.fid(1, -1, 1, 0, 0, 0);
+        b.ok(Wire.walk(1, 1, "..", "f"));
+        b.fid(1, -1, 2, 0, 0, 0);
+        b.fid(0, -1, 0, 0, 0, 0);
+        b.count(3, 2);
+    }
+
     /** "it is in itself, as far as .. goes" */
     private static void upFromTheRoot() {
         Bench b = Bench.attached();
@@ -371,6 +388,14 @@ final class EdgeSessionTest {
         // But it is not among its own FILES.
         b.error(8, Wire.walk(0, 3, "/"));
         b.file(-1, 0, 0, 1, 0x800001ff, 4, 1, 1);
+        // A SNAPSHOT's ROOT is in itself, too, and not in the LIVE TREE.
+        b.server.snap();
+        b.make("later", 0x1ff, "");
+        b.ok(Wire.attach(3, Wire.NOFID, "", "s0"));
+        b.ok(Wire.walk(3, 4, "d", "..", ".."), new Wire().n2(3).raw(Wire.qid(true, 0, 1)).raw(Wire.qid(true, 1, 0))
+                .raw(Wire.qid(true, 1, 0)).bytes());
+        b.fid(4, 0, 0, 0, 0, 0);
+        b.error(8, Wire.walk(4, 5, "later"));
     }
 
     /** "it stops where it is no DIRECTORY, or there is none such. If it stops at the first one: 8." */
@@ -420,7 +445,7 @@ final class EdgeSessionTest {
         b.make("ab", 0, "");
         b.make("\u00e9\u00ff\u0080", 0, "");
         for (String none : new String[] {"", "a", "abc", "ab\0", "Ab", "b", "ba", twenty + "m", twenty.substring(0, 19), ".",
-            "\u00e9\u00ff", "\u00e9\u00ff\0", "i\u007f\0", "\u00e9\u00ff\u0081"}) {
+            "\u00e9\u00ff", "\u00e9\u00ff\0", "i\u007f\0", "\u00e9\u00ff\u0081", ".a", "a.", "...", "/.", "..\0"}) {
             b.error(8, Wire.walk(0, 1, none));
         }
         b.ok(Wire.walk(0, 1, twenty));

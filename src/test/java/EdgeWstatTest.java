@@ -27,22 +27,9 @@ final class EdgeWstatTest {
         Bench.end();
     }
 
-    /** Fid 1 at file f (PATH 1, four bytes, MTIME 5), fid 2 at directory d (PATH 2, MTIME 8); nothing is LOOSE. */
-    private static Bench twoFiles() {
-        Bench b = Bench.attached();
-        b.make("f", 0x1ff, "data");
-        b.make("d", 0x800001ff, "");
-        b.ok(Wire.walk(0, 1, "f"));
-        b.ok(Wire.walk(0, 2, "d"));
-        b.ok(Wire.sync(0));
-        b.file(-1, 1, 0, 1, 0x1ff, 5, 4, 1);
-        b.file(-1, 2, 0, 0, 0x800001ff, 8, 0, 1);
-        return b;
-    }
-
     /** "5: type, dev, qid, atime, .. are not all ones (all bits 1 ..)": a single bit is enough. */
     private static void eachBitThatMustBeOne() {
-        Bench b = twoFiles();
+        Bench b = Bench.twoFiles();
         for (int fid = 0; fid < 3; fid++) {
             byte[] sync = Wire.sync(fid);
             // Behind head, fid, n and the STAT's own number: type[2] dev[4] qid[13], mode[4], atime[4].
@@ -61,7 +48,7 @@ final class EdgeWstatTest {
 
     /** "uid, gid, muid are not all ones (.. an empty s)" */
     private static void eachTextThatMustBeEmpty() {
-        Bench b = twoFiles();
+        Bench b = Bench.twoFiles();
         for (int which = 1; which < 4; which++) {
             for (String text : new String[] {"g", "\0", "\u00ff", "gg", "x".repeat(300)}) {
                 String[] texts = {"", "", "", ""};
@@ -87,7 +74,7 @@ final class EdgeWstatTest {
 
     /** "6: name is not empty, .. or may not be": 1 to 20 bytes. */
     private static void lengthsOfNames() {
-        Bench b = twoFiles();
+        Bench b = Bench.twoFiles();
         for (int fid = 1; fid < 3; fid++) {
             for (int length : new int[] {1, 2, 19, 20, 21, 22, 256, 257, 276}) {
                 becomes(b, fid, String.valueOf((char) ('x' + fid)).repeat(length), length <= 20);
@@ -101,7 +88,7 @@ final class EdgeWstatTest {
 
     /** "none of them 0 or 47, not . nor .." */
     private static void bytesOfNames() {
-        Bench b = twoFiles();
+        Bench b = Bench.twoFiles();
         for (int code = 0; code < 256; code++) {
             String one = String.valueOf((char) code);
             boolean may = code != 0 && code != 47;
@@ -120,7 +107,7 @@ final class EdgeWstatTest {
 
     /** "6: name is not empty, and the ROOT" */
     private static void nameOfTheRoot() {
-        Bench b = twoFiles();
+        Bench b = Bench.twoFiles();
         for (String name : new String[] {"/", "x", "f", "..", TWENTY + "m"}) {
             b.error(6, Wire.wstat(0, name, -1, -1, -1));
         }
@@ -130,7 +117,7 @@ final class EdgeWstatTest {
 
     /** "7: name is another FILE's in that DIRECTORY" */
     private static void namesOfOthers() {
-        Bench b = twoFiles();
+        Bench b = Bench.twoFiles();
         b.error(7, Wire.wstat(1, "d", -1, -1, -1));
         b.error(7, Wire.wstat(2, "f", -1, -1, -1));
         b.ok(Wire.walk(0, 3, "d"));
@@ -153,7 +140,7 @@ final class EdgeWstatTest {
     /** "8: mode is not all ones, and bit 31 is not its own, or has bits that a MODE may not have" */
     private static void eachBitOfAFilesMode() {
         for (int bit = 0; bit < 32; bit++) {
-            Bench b = twoFiles();
+            Bench b = Bench.twoFiles();
             if (bit < 9) {
                 b.ok(Wire.wstat(1, "", 1 << bit, -1, -1), new byte[0]);
                 b.file(-1, 1, 0, 1, 1 << bit, 5, 4, 1);
@@ -164,7 +151,7 @@ final class EdgeWstatTest {
                 b.error(8, Wire.wstat(1, "", ~(1 << bit), -1, -1));
             }
         }
-        Bench b = twoFiles();
+        Bench b = Bench.twoFiles();
         b.ok(Wire.wstat(1, "", 0, -1, -1));
         b.ok(Wire.wstat(1, "", 0x1ff, -1, -1));
         b.error(8, Wire.wstat(1, "", 0x200, -1, -1));
@@ -174,7 +161,7 @@ final class EdgeWstatTest {
 
     private static void eachBitOfADirectorysMode() {
         for (int bit = 0; bit < 31; bit++) {
-            Bench b = twoFiles();
+            Bench b = Bench.twoFiles();
             int mode = 1 << bit | 0x80000000;
             if (bit < 9) {
                 b.ok(Wire.wstat(2, "", mode, -1, -1), new byte[0]);
@@ -186,7 +173,7 @@ final class EdgeWstatTest {
             b.error(8, Wire.wstat(0, "", 1 << bit, -1, -1));
             b.error(8, Wire.wstat(2, "", ~(1 << bit), -1, -1));
         }
-        Bench b = twoFiles();
+        Bench b = Bench.twoFiles();
         b.error(8, Wire.wstat(2, "", 0, -1, -1));
         b.error(8, Wire.wstat(2, "", 0x1ff, -1, -1));
         b.ok(Wire.wstat(2, "", 0x80000000, -1, -1));
@@ -196,7 +183,7 @@ final class EdgeWstatTest {
 
     /** All ones leave a MODE, though bit 31 of them is no file's own. */
     private static void modeOfAllOnes() {
-        Bench b = twoFiles();
+        Bench b = Bench.twoFiles();
         b.ok(Wire.wstat(1, "", -1, 7, -1));
         b.file(-1, 1, 0, 1, 0x1ff, 7, 4, 1);
         b.ok(Wire.wstat(2, "", -1, 7, -1));
@@ -205,7 +192,7 @@ final class EdgeWstatTest {
 
     /** "MTIME (mtime not all ones)" */
     private static void mtimes() {
-        Bench b = twoFiles();
+        Bench b = Bench.twoFiles();
         for (int fid = 0; fid < 3; fid++) {
             for (int mtime : new int[] {0, 1, Integer.MAX_VALUE, Integer.MIN_VALUE, -3, -2}) {
                 b.ok(Wire.wstat(fid, "", -1, mtime, -1), new byte[0]);
@@ -221,7 +208,7 @@ final class EdgeWstatTest {
     /** "DATA (cut, or with 0s behind: CHANGED, if the length is another one ..)" */
     private static void lengths() {
         for (int length : new int[] {0, 1, 3, 4, 5, 63, 64, 511, 512}) {
-            Bench b = twoFiles();
+            Bench b = Bench.twoFiles();
             b.ok(Wire.wstat(1, "", -1, -1, length), new byte[0]);
             boolean other = length != 4;
             b.file(-1, 1, 0, other ? 2 : 1, 0x1ff, other ? b.server.count(0) : 5, length, 1);
@@ -236,7 +223,7 @@ final class EdgeWstatTest {
 
     /** "9: length is not all ones, and it is .. above 512": eight bytes without a sign. */
     private static void lengthsThatAreTooLarge() {
-        Bench b = twoFiles();
+        Bench b = Bench.twoFiles();
         for (long length : new long[] {513, 514, 1024, 65536, 1L << 31, (1L << 32) - 1, 1L << 32, (1L << 32) + 4, Long.MAX_VALUE,
             Long.MIN_VALUE, Long.MIN_VALUE + 4, -513, -512, -4, -2}) {
             b.error(9, Wire.wstat(1, "", -1, -1, length));
@@ -248,7 +235,7 @@ final class EdgeWstatTest {
 
     /** "9: .. it is a DIRECTORY": any length but all ones, that which it has, too. */
     private static void lengthOfADirectory() {
-        Bench b = twoFiles();
+        Bench b = Bench.twoFiles();
         for (int fid : new int[] {0, 2}) {
             for (long length : new long[] {0, 1, 512, 513, -2, Long.MIN_VALUE}) {
                 b.error(9, Wire.wstat(fid, "", -1, -1, length));
@@ -259,7 +246,7 @@ final class EdgeWstatTest {
 
     /** "mtime stands, if it is told" */
     private static void lengthAndMtime() {
-        Bench b = twoFiles();
+        Bench b = Bench.twoFiles();
         b.ok(Wire.wstat(1, "", -1, 0, 3));
         b.file(-1, 1, 0, 2, 0x1ff, 0, 3, 1);
         b.ok(Wire.wstat(1, "", -1, -2, 4));
@@ -278,7 +265,7 @@ final class EdgeWstatTest {
     }
 
     private static void cutAndGrown() {
-        Bench b = twoFiles();
+        Bench b = Bench.twoFiles();
         b.ok(Wire.wstat(1, "", -1, -1, 2));
         b.ok(Wire.wstat(1, "", -1, -1, 6));
         b.ok(Wire.open(1, 0));
@@ -288,7 +275,7 @@ final class EdgeWstatTest {
 
     /** Each cause is taken away in turn: 2, 4, 3, 5, 6, 7, 8, 9. */
     private static void errorsInOrder() {
-        Bench b = twoFiles();
+        Bench b = Bench.twoFiles();
         b.server.snap();
         b.ok(Wire.attach(3, Wire.NOFID, "", "s0"));
         b.ok(Wire.walk(3, 4, "f"));
@@ -312,7 +299,7 @@ final class EdgeWstatTest {
 
     /** "126 that changes nothing that it was is none", and no SYNC. */
     private static void nothingThatItWas() {
-        Bench b = twoFiles();
+        Bench b = Bench.twoFiles();
         b.ok(Wire.wstat(2, "", 0x80000001, -1, -1));
         State before = new State(b.server);
         byte[][] same = {Wire.wstat(1, "f", -1, -1, -1), Wire.wstat(1, "", 0x1ff, -1, -1), Wire.wstat(1, "", -1, 5, -1),
@@ -330,7 +317,7 @@ final class EdgeWstatTest {
             Wire.wstat(1, "f", 0x1ff, 5, 5), Wire.wstat(1, "f", 0x1ff, 5, 3), Wire.wstat(1, "ff", 0x1ff, 5, 4),
             Wire.wstat(2, "D", -1, -1, -1), Wire.wstat(0, "", 0x80000000, -1, -1)};
         for (byte[] message : others) {
-            Bench b = twoFiles();
+            Bench b = Bench.twoFiles();
             State before = new State(b.server);
             b.ok(message, new byte[0]);
             b.count(5, 1);
@@ -343,7 +330,7 @@ final class EdgeWstatTest {
     /** "if all is all ones (and empty): SYNC": with any FID of the LIVE TREE, OPEN or not. */
     private static void allOnesIsASync() {
         for (int fid = 0; fid < 4; fid++) {
-            Bench b = twoFiles();
+            Bench b = Bench.twoFiles();
             b.ok(Wire.walk(0, 3));
             b.ok(Wire.create(3, "g", 0, 1));
             b.ok(Wire.write(3, 0, "x"));

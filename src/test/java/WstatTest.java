@@ -11,19 +11,8 @@ final class WstatTest {
         Bench.end();
     }
 
-    /** fid 1 at file f (path 1, four bytes), fid 2 at directory d (path 2). */
-    private static Bench twoFiles() {
-        Bench b = Bench.attached();
-        b.make("f", 0x1ff, "data");
-        b.make("d", 0x800001ff, "");
-        b.ok(Wire.walk(0, 1, "f"));
-        b.ok(Wire.walk(0, 2, "d"));
-        b.ok(Wire.sync(0));
-        return b;
-    }
-
     private static void errors() {
-        Bench b = twoFiles();
+        Bench b = Bench.twoFiles();
         for (int i = 0; i < 19; i++) {
             byte[] fixed = Wire.ones(19);
             fixed[i] = (byte) 0x7f;
@@ -55,7 +44,7 @@ final class WstatTest {
     }
 
     private static void order() {
-        Bench b = twoFiles();
+        Bench b = Bench.twoFiles();
         b.server.snap();
         b.ok(Wire.attach(3, Wire.NOFID, "", "s0"));
         byte[] zeros = new byte[19];
@@ -70,7 +59,7 @@ final class WstatTest {
     }
 
     private static void name() {
-        Bench b = twoFiles();
+        Bench b = Bench.twoFiles();
         b.ok(Wire.wstat(1, "twenty-bytes-long-na", -1, -1, -1), new byte[0]);
         b.file(-1, 1, 0, 1, 0x1ff, 5, 4, 20);
         b.file(-1, 0, 0, 2, 0x800001ff, 8, 2, 1);
@@ -87,7 +76,7 @@ final class WstatTest {
     }
 
     private static void modeAndTime() {
-        Bench b = twoFiles();
+        Bench b = Bench.twoFiles();
         b.ok(Wire.wstat(1, "", 0x81, -1, -1));
         b.file(-1, 1, 0, 1, 0x81, 5, 4, 1);
         b.ok(Wire.wstat(1, "", -1, -2, -1));
@@ -101,7 +90,7 @@ final class WstatTest {
     }
 
     private static void length() {
-        Bench b = twoFiles();
+        Bench b = Bench.twoFiles();
         b.ok(Wire.wstat(1, "", -1, -1, 2));
         b.file(-1, 1, 0, 2, 0x1ff, b.server.count(0), 2, 1);
         b.ok(Wire.wstat(1, "", -1, 9, 6));
@@ -117,7 +106,7 @@ final class WstatTest {
     }
 
     private static void noChange() {
-        Bench b = twoFiles();
+        Bench b = Bench.twoFiles();
         b.ok(Wire.wstat(1, "f", 0x1ff, 5, 4), new byte[0]);
         b.ok(Wire.wstat(1, "f", -1, -1, -1));
         b.ok(Wire.wstat(1, "", 0x1ff, -1, -1));
@@ -132,7 +121,7 @@ final class WstatTest {
     }
 
     private static void sync() {
-        Bench b = twoFiles();
+        Bench b = Bench.twoFiles();
         b.make("x", 0, "");
         b.count(5, 1);
         b.ok(Wire.sync(1), new byte[0]);
